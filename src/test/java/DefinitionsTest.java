@@ -180,7 +180,7 @@ public final class DefinitionsTest {
         return arcs;
     }
 
-    /** The most ways from s to t, where way by way every arc and, if apart, every point is used once; by trying. */
+    /** The most ways from s to t that have no arc and, if points is told, no point between in common; by trying. */
     private static int tryWays(int p, int s, int t, int usedArcs, int usedPoints, boolean points) {
         int best = 0;
         for (int k = 0; k < 20; k++) {

@@ -1,6 +1,6 @@
 /**
- * Each promise in turn: ordinary inputs, the edges that the document names, and wrong inputs. No object is asked
- * more than the 512 times that the document promises anything for.
+ * Each promise in turn: ordinary inputs, the edges that the document names, and wrong inputs. No answer is held to
+ * be due after an object's 512th call, since the document promises none.
  */
 public final class PromisesTest {
     private static final int BAD = -1;
@@ -65,6 +65,15 @@ public final class PromisesTest {
         FlowSuite x = new FlowSuite();
         for (int k = 0; k < 20; k++) {
             due("add", x.add(k % 8, (k + 1) % 8, k), k);
+        }
+        return x;
+    }
+
+    /** All the room that there can be goes from 7 to 0. */
+    private static FlowSuite widest() {
+        FlowSuite x = new FlowSuite();
+        for (int k = 0; k < 20; k++) {
+            x.add(7, 0, 99);
         }
         return x;
     }
@@ -181,10 +190,7 @@ public final class PromisesTest {
         everyEngine(net(0, 1, 9, 1, 2, 9, 2, 3, 9, 3, 4, 9, 4, 5, 9, 5, 6, 9, 6, 7, 8), 0, 7, 8);
         // What comes into s or goes out of t brings nothing.
         everyEngine(net(0, 1, 4, 1, 0, 3, 1, 2, 2, 2, 1, 5), 0, 2, 2);
-        FlowSuite wide = new FlowSuite();
-        for (int k = 0; k < 20; k++) {
-            wide.add(7, 0, 99);
-        }
+        FlowSuite wide = widest();
         everyEngine(wide, 7, 0, 1980);
         everyEngine(wide, 0, 7, 0);
         for (int engine = 0; engine < 7; engine++) {
@@ -228,6 +234,7 @@ public final class PromisesTest {
         due("least(0, 3)", x.least(0, 3), 1);
         chain.change(0, 5);
         due("least(0, 3), the first one wider", chain.least(0, 3), 3);
+        due("least(7, 0) of the greatest size", widest().least(7, 0), 128);
         badEnds("least", x::least);
         part = "promise 9";
         due("most(0, 3)", chain.most(0, 3), 247);
@@ -235,6 +242,7 @@ public final class PromisesTest {
         chain.change(2, 5);
         due("most(0, 3), the last one wider", chain.most(0, 3), 243);
         due("most(0, 3)", x.most(0, 3), 247);
+        due("most(7, 0) of the greatest size", widest().most(7, 0), 254);
         badEnds("most", x::most);
     }
 
@@ -250,6 +258,7 @@ public final class PromisesTest {
         due("tight(1, 0) of an arc of room 0", net(0, 1, 0).tight(1, 0), 0);
         // Full, but point 1 reaches point 2 in another way.
         due("tight of a full arc beside an idle way", net(0, 1, 1, 1, 2, 1, 1, 2, 1, 2, 3, 1).tight(0, 3), 1 + 8);
+        due("tight(7, 0) of the greatest size", widest().tight(7, 0), ALL_ARCS);
         badEnds("tight", chain::tight);
     }
 
@@ -263,6 +272,7 @@ public final class PromisesTest {
         due("widening beside each other", net(0, 1, 99, 0, 1, 0, 1, 0, 3).widening(0, 1), 3);
         due("widening of room 0 in the middle", net(0, 1, 4, 1, 2, 0, 2, 3, 5).widening(0, 3), 2);
         due("widening of the diamond", diamond().widening(0, 3), 0);
+        due("widening(7, 0) of the greatest size", widest().widening(7, 0), ALL_ARCS);
         badEnds("widening", chain::widening);
     }
 
@@ -364,6 +374,34 @@ public final class PromisesTest {
         }
     }
 
+    /** What these calls answer is free, but none may throw. */
+    private static void longRun() {
+        part = "a long run";
+        FlowSuite x = diamond();
+        int[] odd = {Integer.MIN_VALUE, -1, 0, 1, 3, 7, 8, 20, 99, 100, Integer.MAX_VALUE};
+        for (int p : odd) {
+            x.remove(p);
+            for (int q : odd) {
+                x.change(p, q);
+                x.least(p, q);
+                x.most(p, q);
+                x.tight(p, q);
+                x.widening(p, q);
+                x.apart(p, q);
+                x.separate(p, q);
+                x.fewest(p, q);
+                for (int r : odd) {
+                    x.add(p, q, r);
+                    x.value(p, q, r);
+                    x.throttled(p, q, r);
+                    x.agree(r, 6, p, q);
+                }
+            }
+            x.weakest();
+            x.arcs();
+        }
+    }
+
     private static int[] answers(FlowSuite x) {
         int[] all = new int[1 + 56 * 3];
         all[0] = x.arcs();
@@ -395,6 +433,7 @@ public final class PromisesTest {
         weakest();
         throttled();
         refusals();
+        longRun();
         System.out.println(wrong == 0 ? "all answers are as due" : wrong + " answers are not as due");
         if (wrong != 0) {
             System.exit(1);
