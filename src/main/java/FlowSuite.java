@@ -442,6 +442,7 @@ public final class FlowSuite {
     private void passWidth(int u) {
         for (int v = 0; v < NODES; v++) {
             int next = left[u * NODES + v];
+            // Not by lesser, whose call would be the seventh in the chain from agree.
             int through = next < width[u] ? next : width[u];
             if (through > width[v]) {
                 width[v] = through;
